@@ -1,0 +1,37 @@
+/** What a test notes: calls whose answer is not the one that is due. */
+final class Due {
+    private int asked;
+    private int wrong;
+
+    void is(String call, long got, long want) {
+        asked++;
+        if (got != want) {
+            wrong++;
+            System.out.println(call + " answered " + got + ", due is " + want);
+        }
+    }
+
+    void holds(String what, boolean so) {
+        is(what, so ? 1 : 0, 1);
+    }
+
+    /** Ends the test: exit code 1 if an answer was wrong, or if nothing was asked. */
+    void end(String test) {
+        System.out.println(test + ": " + asked + " asked, " + wrong + " wrong");
+        if (wrong != 0 || asked == 0) {
+            System.exit(1);
+        }
+    }
+
+    /** THE TEXT takes these bytes behind its own. */
+    static void feed(ByLot x, String bytes) {
+        for (int i = 0; i < bytes.length(); i++) {
+            x.feed(bytes.charAt(i), 1);
+        }
+    }
+
+    static int valley(ByLot x, String bytes) {
+        feed(x, bytes);
+        return x.valley();
+    }
+}
