@@ -22,7 +22,7 @@ public final class ByLot {
     private static final int BOOK_MOST = 12;
     private static final int NOBODYS_NUMBER = 99;
 
-    private static final int PLAIN = 1, POOR = 2, LONG = 3, PAID = 4, SWAP = 5, TOLD = 6;
+    private static final int HOLDER = 0, PLAIN = 1, LONG = 3, PAID = 4, SWAP = 5, TOLD = 6;
     private static final int[] KIND_ABOVE = {-1, 0, 0, 1, 1, 1, 2};
 
     private final Land land = new Land();
@@ -123,7 +123,7 @@ public final class ByLot {
     // ---- holders, years
 
     public int holder(int kind, int v) {
-        if (!within(kind, 0, TOLD)) {
+        if (!within(kind, HOLDER, TOLD)) {
             return NONE;
         }
         if (!within(v, 0, 9)) {
@@ -450,7 +450,7 @@ public final class ByLot {
     }
 
     public int taken(int holder, int k) {
-        if (!within(k, 0, TOLD)) {
+        if (!within(k, HOLDER, TOLD)) {
             return BAD;
         }
         Holder one = land.holderAt(holder);
@@ -792,12 +792,7 @@ public final class ByLot {
             if (reckons()) {
                 return ground.first(endPrice(ground), yearsFor(left), state);
             }
-            int m = kind == TOLD ? at(steps, left) : NIL;
-            if (m == NIL) {
-                boolean mends = kind != 0 && state < v && purse >= ground.number(Valley.COST, left, state);
-                m = mends ? 1 : 0;
-            }
-            return Math.min(m, STATES - 1 - state);
+            return stepsAtSight(ground, state, left, purse);
         }
 
         int worthIn(Ground ground, int state, int left, int purse) {
@@ -806,11 +801,21 @@ public final class ByLot {
             }
             int sum = 0;
             for (int l = left; l >= 1; l--) {
-                int m = stepsIn(ground, state, l, purse + sum);
+                int m = stepsAtSight(ground, state, l, purse + sum);
                 sum += ground.gain(l, state, m);
                 state = ground.behind(l, state, m);
             }
             return sum;
+        }
+
+        /** What those MEND who do not look ahead: HOLDER, POOR, TOLD. */
+        private int stepsAtSight(Ground ground, int state, int left, int purse) {
+            int m = kind == TOLD ? at(steps, left) : NIL;
+            if (m == NIL) {
+                boolean can = kind != HOLDER && state < v && purse >= ground.number(Valley.COST, left, state);
+                m = can ? 1 : 0;
+            }
+            return Math.min(m, STATES - 1 - state);
         }
 
         private boolean reckons() {
@@ -1277,7 +1282,7 @@ public final class ByLot {
                 return 0;
             }
             int kind = lowest;
-            for (int n = 0; n < KIND_ABOVE.length && kind > 0 && at(BODIES, kind * 3 + what) == 0; n++) {
+            for (int n = 0; n < KIND_ABOVE.length && kind > HOLDER && at(BODIES, kind * 3 + what) == 0; n++) {
                 kind = at(KIND_ABOVE, kind);
             }
             int body = at(BODIES, kind * 3 + what);

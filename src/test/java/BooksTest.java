@@ -6,6 +6,7 @@ public final class BooksTest {
         book();
         looked();
         lookedBehindTheLot();
+        lookedByLeft();
         judge();
         image();
         cameSince();
@@ -57,7 +58,7 @@ public final class BooksTest {
         x.lot(1);
         x.lot(0);
         x.set(0, 2);
-        Due.valley(x, "cost 5 s<99;pay 3");
+        Due.valley(x, "cost 6 s<99;pay 3");
         for (int n = 0; n < 2; n++) {
             x.book(0);
         }
@@ -67,6 +68,22 @@ public final class BooksTest {
         due.is("0 times 3 pays nothing", x.looked(0, 0), 2);
         x.book(0);
         due.is("behind the next lot it mends again", x.looked(0, 1), 4);
+    }
+
+    private static void lookedByLeft() {
+        ByLot x = new ByLot();
+        x.holder(2, 9);
+        x.holding(0);
+        x.set(0, 3);
+        // The PURSE: 4, 4, 5 (by LEFT 3 and 1), then a step of 5, and so on; STATE falls with LEFT 2 alone.
+        Due.valley(x, "bring 4 l=3;bring 1 l=1;cost 5 s<99;fall 9 l=2;pay 9");
+        int[] book = {0, 0, 0, 1, 0, 0, 1, 0, 0};
+        for (int n = 0; n < book.length; n++) {
+            due.is("the book so far, " + n + " years", x.looked(0, 0), -5);
+            x.book(book[n]);
+        }
+        x.go(9);
+        due.is("as years went", x.has(0, 3), 5);
     }
 
     private static void judge() {

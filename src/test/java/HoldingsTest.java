@@ -12,6 +12,7 @@ public final class HoldingsTest {
         faults();
         told();
         newestHolds();
+        nothingStaysOfFaults();
         due.end("HoldingsTest");
     }
 
@@ -118,6 +119,16 @@ public final class HoldingsTest {
         fault("x", 0);
         fault("fall", 4);
         fault("fall  1 s=1", 5);
+        fault("f1 s=1", 1);
+        fault("pay1", 3);
+        fault("fall ", 5);
+        fault("fall 1", 6);
+        fault("fall 1 ", 7);
+        fault("fall 1 s", 8);
+        fault("fall 1 s=", 9);
+        fault("fall 1 !", 8);
+        fault("fall 1 (", 8);
+        fault("fall 1 (s=1&", 12);
         fault("fall 1s=1", 6);
         fault("fall 123 s=1", 7);
         fault("fall 12 s=123", 12);
@@ -182,6 +193,7 @@ public final class HoldingsTest {
         due.is("& ahead of |: s=4&i=1", x.told(4, 1, 1, 0, 1), 99);
         due.is("cost of 3", x.told(5, 1, 0, 3, 2), 0);
         due.is("cost of 2", x.told(5, 1, 0, 2, 2), 7);
+        due.is("of number 5 in number 5", x.told(4, 5, 5, 5, 2), 7);
         due.is("costs together", x.told(1, 18, 0, 2, 2), 10);
         due.is("l>9 is not 9", x.told(1, 9, 0, 2, 2), 7);
         due.is("the last pay", x.told(0, 1, 0, 0, 3), 8);
@@ -198,8 +210,21 @@ public final class HoldingsTest {
         due.is("NONE ahead of BAD", x.told(10, 0, 0, 0, 5), -1);
     }
 
+    private static void nothingStaysOfFaults() {
+        ByLot x = new ByLot();
+        due.is("a fault at the end", Due.valley(x, "bring 5 s<9|s=9;fall 3 s<99;pay 7;keep 3;x"), -10 - 41);
+        due.is("the next", Due.valley(x, "cost 1 s<9"), 0);
+        int[] want = {0, 0, 1, 0, 0};
+        for (int what = 0; what < want.length; what++) {
+            due.is("told " + what, x.told(0, 1, 0, 0, what), want[what]);
+        }
+        due.is("cost of 9", x.told(9, 1, 0, 0, 2), 0);
+    }
+
     private static void newestHolds() {
         ByLot x = new ByLot();
+        Due.valley(x, "bring 3 p=5&i=5&l=18;bring 4 p>5|i>5|l>18");
+        due.is("number 5, left 18", x.told(0, 18, 5, 5, 1), 3);
         Due.valley(x, "bring 3 s<99;pay 4;keep 6");
         due.is("the first brings", x.told(0, 1, 0, 0, 1), 3);
         Due.valley(x, "cost 2 s<99");

@@ -43,7 +43,7 @@ final class Texts {
             return "(" + either(random, depth + 1, 0) + ")";
         }
         char letter = "sssssslip".charAt(random.nextInt(9));
-        int n = letter == 'l' ? random.nextInt(18) : letter == 's' ? random.nextInt(10) : random.nextInt(5);
+        int n = letter == 'l' ? random.nextInt(18) : letter == 's' ? random.nextInt(10) : random.nextInt(7);
         n = random.nextInt(30) == 0 ? 10 + random.nextInt(90) : n;
         return "" + letter + "<=>".charAt(random.nextInt(3)) + n;
     }
