@@ -92,6 +92,17 @@ public final class AskedTest {
         due.is("pay of 99 is equal alone, and that is not enough", x.pay(), -5);
         Due.valley(x, "bring 99 s>0&l>1;cost 98 s=0");
         due.is("pay of 99", x.pay(), 99);
+        payByLeft();
+    }
+
+    private static void payByLeft() {
+        ByLot x = new ByLot();
+        x.holder(0, 0);
+        x.holding(0);
+        x.set(1, 1);
+        // For ever from LEFT 1 is from 10 on, not from ROUND and 9.
+        Due.valley(x, "bring 2 s>0;cost 9 s=0;cost 90 l=18|l=9");
+        due.is("LEFT as it is", x.pay(), 8);
     }
 
     private static void keep() {
