@@ -91,12 +91,12 @@ public final class ActsTest {
         x.holder(0, 0);
         x.holder(0, 0);
         x.holder(0, 0);
-        Due.valley(x, "pay 1");
+        Lands.valley(x, "pay 1");
         x.go(4);
         x.lot(1);
         x.book(1);
         x.book(1);
-        Due.feed(x, "fall 1");
+        Lands.feed(x, "fall 1");
         x.act(0, 1, 0);
         int[] want = {2, 3, 1, 4, 5, 1, 2, 6, 2};
         for (int what = 0; what < want.length; what++) {

@@ -225,6 +225,21 @@ final class AskedEdges {
         edge.is("with six it needs none", x.pay(), 0);
         x.set(1, 5);
         edge.is("with five a step comes to nothing", x.pay(), 1);
+        x = leaving("bring 1 s>4;cost 5 s<5", 4);
+        edge.is("of STATE 4", x.pay(), 5);
+        x.set(0, 9);
+        x = each("bring 1 s>0;cost 5 s<1;fall 9 l=9", 9);
+        edge.is("of STATE 9", x.pay(), 0);
+        edge.is("what is asked of 36 years", x.alike(36), 0);
+        x.go(8);
+        Lands.valley(x, "bring 1 s>0;cost 5 s<1");
+        edge.is("of STATE 0", x.pay(), 5);
+        x = Lands.with(new ByLot(), 0, 0, 0, 0);
+        x.holding(0);
+        x.holding(0);
+        Lands.valley(x, "bring 1 s>0;cost 20 p=0;cost 5 p=1");
+        x.set(1, 1);
+        edge.is("of its own number", x.pay(), 5);
         // v 9 is 10 years in all: a step for 9 is worth it, one for 10 is not.
         edge.is("v 9", leaving("bring 1 s>0;cost 9 s<1", 0).pay(), 9);
         edge.is("not more", leaving("bring 1 s>0;cost 10 s<1", 0).pay(), 0);
@@ -238,8 +253,12 @@ final class AskedEdges {
         Lands.valley(x, "bring 1 s>0;cost 5 s<1");
         edge.is("no HOLDINGS", x.pay(), 0);
         x.set(1, 1);
+        edge.is("no HOLDINGS, LEFT 1", x.pay(), 0);
         x.holding(0);
         edge.is("one has one", x.pay(), 5);
+        Lands.with(x, 1, 0);
+        Lands.valley(x, "bring 1 s>0;cost 5 p=0;cost 9 p=1");
+        edge.is("the others have none, and need none", x.pay(), 5);
         edge.is("-5", leaving("bring 99 s>0&l>1;cost 99 s=0", 0).pay(), -5);
     }
 
@@ -265,6 +284,10 @@ final class AskedEdges {
         edge.is("0 is more than - 1 / 2", x.keep(), 1);
         x = each("bring 6 s=1", 0, 1, 0, 1, 0, 1);
         edge.is("as bits", x.keep(), 2 + 8 + 32);
+        x = Lands.with(Lands.of("bring 3 i=0;bring 2 i=1", 1, 1), 0, 0);
+        edge.is("more HOLDINGS than HOLDERS", x.keep(), 1);
+        x = Lands.with(Lands.of("bring 3 i=0", 1), 0, 0, 0, 0, 0, 0);
+        edge.is("fewer HOLDINGS than HOLDERS", x.keep(), 0);
         x = each("bring 3 l=2&s=1;bring 1 l=1&s=0;keep 1", 1, 0);
         x.set(0, 2);
         x.set(1, 1);
@@ -282,6 +305,8 @@ final class AskedEdges {
         tell(x, 2, 1);
         // HOLDER 2 may expect less than nothing, and has nothing.
         edge.is("one has none", x.keep(), 1);
+        x = Lands.with(Lands.of("bring 1 s=0", 9, 9), 0, 0, 0, 0, 0, 0);
+        edge.is("one has none, and the others nothing", x.keep(), 0);
         edge.is("six of six", each("bring 1 i=0&p=0|i=1&p=1|i=2&p=2|i=3&p=3;bring 1 i=4&p=4|i=5&p=5", 1, 1, 1, 1, 1, 1).keep(), 63);
     }
 
@@ -298,10 +323,21 @@ final class AskedEdges {
         // 1 and 2 would swap, and 0 and 1 then: but that pair is over.
         Lands.valley(x, "bring 1 p=1&i=2;bring 1 p=2&i=1;bring 1 p=0&i=2;bring 2 p=1&i=0");
         edge.is("each pair once", x.swaps(), 1);
+        // 0 and 2 swap; 0 and 1 would then, too: but that pair is over.
+        Lands.valley(x, "bring 3 p=0&i=1;bring 2 p=0&i=2;bring 1 p=1&i=2;bring 1 p=2&i=0");
+        edge.is("each pair once", x.swaps(), 1);
+        // 0 and 1 swap; 2 would have nothing of 1 but what it has then.
+        Lands.valley(x, "bring 1 p=0&i=1;bring 1 p=1&i=0;bring 2 p=1&i=2;bring 1 p=2&i=0");
+        edge.is("of what the other has then", x.swaps(), 2);
+        x = each("bring 1 p=0&i=2;bring 1 p=2&i=0;bring 2 p=2&i=1;bring 1 p=1&i=0", 1, 1, 1);
+        edge.is("of what the second has then", x.swaps(), 2);
         Lands.valley(x, "bring 1 l=9&p=0&i=1;bring 1 l=9&p=1&i=0");
         edge.is("LEFT 9", x.swaps(), 1);
         x.set(1, 8);
         edge.is("LEFT 8", x.swaps(), 0);
+        Lands.valley(x, "bring 50 l=9;bring 1 p=0&i=1;bring 1 p=1&i=0");
+        edge.is("LEFT 8, of its own, too", x.swaps(), 1);
+        swapsOfSome();
         x = Lands.with(Lands.of("bring 1 p=1&i=0", 1), 0, 0, 0, 0);
         edge.is("one has none", x.swaps(), 0);
         x = Lands.with(Lands.of("cost 9 p=0&i=0;cost 9 p=1&i=1", 0, 0), 6, 0, 6, 0);
@@ -312,6 +348,28 @@ final class AskedEdges {
         edge.is("nobody", new ByLot().swaps(), 0);
         edge.is("one alone", each("bring 1 s<99", 1).swaps(), 0);
         edge.is("no HOLDINGS", Lands.with(new ByLot(), 0, 0, 0, 0).swaps(), 0);
+    }
+
+    private void swapsOfSome() {
+        ByLot x = each("bring 1 p=0&i=0;bring 1 p=1&i=1", 1, 1);
+        Lands.lots(x, 1, 0);
+        x.go(9);
+        edge.is("behind a lot", x.swaps(), 1);
+        x = Lands.with(Lands.of("bring 1 p=0&s=0;bring 1 p=1&s=5", 5), 0, 0, 0, 0);
+        edge.is("the second has none", x.swaps(), 0);
+        x = new ByLot();
+        x.image();
+        x.holder(0, 0);
+        x.holding(0);
+        x.undo();
+        x.holder(0, 0);
+        x.holding(5);
+        Lands.valley(x, "bring 1 p=0&s=5;bring 1 p=1&s=0");
+        edge.is("the first has none", x.has(0, 2), -5);
+        edge.is("the second has one", x.has(1, 2), 1);
+        edge.is("they do not swap", x.swaps(), 0);
+        Lands.valley(x, "bring 1 s=0;bring 3 p=1&i=1");
+        edge.is("the second alone may keep", x.keep(), 2);
     }
 
     private void alike() {
@@ -370,6 +428,7 @@ final class AskedEdges {
         row(x, -13, 0, 1);
         x.row(0, 9, 0);
         row(x, -3, 1, 0);
+        row(each("bring 1 p=0&i=5&s=1", 1, 1, 1, 1, 1, 1), 9, 5, 0, 1, 2, 3, 4);
         edge.says("Terms 3", "of several the first as a row (as many as there are of the fewer; HOLDERS beyond have none).");
         row(each("", 1, 1, 1, 1, 1, 1), 0, 0, 1, 2, 3, 4, 5);
         row(each("bring 1 p=5&i=0", 1, 1, 1, 1, 1, 1), 9, 1, 2, 3, 4, 5, 0);

@@ -28,7 +28,7 @@ public final class AskedTest {
         due.is("1 below", x.expect(0, 1), 1);
         x.holding(2);
         x.holding(3);
-        Due.valley(x, "bring 3 s=1;bring 5 s>1");
+        Lands.valley(x, "bring 3 s=1;bring 5 s>1");
         due.is("2 * (3 + 5 + 5) of 4", x.expect(0, 0), 13);
         due.is("in lowest terms", x.expect(0, 1), 2);
         due.is("part 2", x.expect(0, 2), ByLot.NO);
@@ -36,7 +36,7 @@ public final class AskedTest {
         due.is("holder 1", x.expect(1, 0), ByLot.NO);
         x.holder(6, 0);
         x.row(1, 2, 1);
-        Due.valley(x, "cost 1 s<2");
+        Lands.valley(x, "cost 1 s<2");
         due.is("may be below 0", x.expect(1, 0), -1);
         due.is("the line has no sign", x.expect(1, 1), 2);
     }
@@ -46,13 +46,13 @@ public final class AskedTest {
         due.is("nobody", x.ever(), 0);
         x.holder(0, 0);
         x.holding(9);
-        Due.valley(x, "fall 1 s<99;bring 5 s>4;cost 2 s<99;pay 50");
+        Lands.valley(x, "fall 1 s<99;bring 5 s>4;cost 2 s<99;pay 50");
         // As it is: 9, 8, 7, 6, 5 bring 5 each. For ever: 18 years of 5, and 13 steps.
         due.is("ever", x.ever(), 18 * 5 - 13 * 2 - 25);
         ByLot y = new ByLot();
         y.holder(6, 0);
         y.holding(0);
-        Due.valley(y, "bring 1 l>9;cost 1 s<99");
+        Lands.valley(y, "bring 1 l>9;cost 1 s<99");
         due.is("what is beyond the lot never comes", y.ever(), 0);
     }
 
@@ -64,10 +64,10 @@ public final class AskedTest {
         due.is("what -1", x.rounds(-1), -100001);
         x.holder(0, 0);
         x.holding(3);
-        Due.valley(x, "bring 4 l=3;pay 9");
+        Lands.valley(x, "bring 4 l=3;pay 9");
         due.is("every third year", x.rounds(0), 3);
         due.is("twelve times", x.rounds(1), 48);
-        Due.valley(x, "bring 4 l<3");
+        Lands.valley(x, "bring 4 l<3");
         due.is("of several the least", x.rounds(0), 1);
         due.is("36 years", x.rounds(1), 144);
         x.go(4);
@@ -82,15 +82,15 @@ public final class AskedTest {
         due.is("without a holding", x.pay(), 0);
         x.holding(0);
         // For ever a step is worth 10 years of 2; PAID with a year left only 2 and the pay.
-        Due.valley(x, "bring 2 s>0;cost 9 s=0");
+        Lands.valley(x, "bring 2 s>0;cost 9 s=0");
         due.is("9 less 2 and one more than that", x.pay(), 8);
-        Due.valley(x, "bring 2 s>0;cost 9 s=0;fall 2 l=1");
+        Lands.valley(x, "bring 2 s>0;cost 9 s=0;fall 2 l=1");
         due.is("pay never comes to what falls at the end", x.pay(), -5);
-        Due.valley(x, "bring 2 s>0;cost 90 s=0");
+        Lands.valley(x, "bring 2 s>0;cost 90 s=0");
         due.is("what never is worth it needs none", x.pay(), 0);
-        Due.valley(x, "bring 99 s>0&l>1;cost 99 s=0");
+        Lands.valley(x, "bring 99 s>0&l>1;cost 99 s=0");
         due.is("pay of 99 is equal alone, and that is not enough", x.pay(), -5);
-        Due.valley(x, "bring 99 s>0&l>1;cost 98 s=0");
+        Lands.valley(x, "bring 99 s>0&l>1;cost 98 s=0");
         due.is("pay of 99", x.pay(), 99);
         payByLeft();
     }
@@ -101,7 +101,7 @@ public final class AskedTest {
         x.holding(0);
         x.set(1, 1);
         // For ever from LEFT 1 is from 10 on, not from ROUND and 9.
-        Due.valley(x, "bring 2 s>0;cost 9 s=0;cost 90 l=18|l=9");
+        Lands.valley(x, "bring 2 s>0;cost 9 s=0;cost 90 l=18|l=9");
         due.is("LEFT as it is", x.pay(), 8);
     }
 
@@ -114,14 +114,14 @@ public final class AskedTest {
             x.holder(0, 0);
         }
         x.holder(0, 0);
-        Due.valley(x, "bring 3 s=1;bring 5 s=2;keep 1");
+        Lands.valley(x, "bring 3 s=1;bring 5 s=2;keep 1");
         // WORTH 0, 6, 10; EXPECT 16 / 3.
         due.is("only the last at 1", x.keep(), 4);
-        Due.valley(x, "bring 3 s=1;bring 5 s=2");
+        Lands.valley(x, "bring 3 s=1;bring 5 s=2");
         due.is("both for nothing", x.keep(), 6);
-        Due.valley(x, "bring 3 s=1;bring 5 s=2;keep 5");
+        Lands.valley(x, "bring 3 s=1;bring 5 s=2;keep 5");
         due.is("none at 5", x.keep(), 0);
-        Due.valley(x, "bring 3 s<99");
+        Lands.valley(x, "bring 3 s<99");
         due.is("as much is not more", x.keep(), 0);
     }
 
@@ -133,15 +133,15 @@ public final class AskedTest {
             x.holding(0);
             x.holder(0, 0);
         }
-        Due.valley(x, "bring 5 p=0&i=1;bring 5 p=1&i=0");
+        Lands.valley(x, "bring 5 p=0&i=1;bring 5 p=1&i=0");
         due.is("both would", x.swaps(), 1);
-        Due.valley(x, "bring 5 p=0&i=1");
+        Lands.valley(x, "bring 5 p=0&i=1");
         due.is("one would not", x.swaps(), 0);
         // 0 and 1 swap; then 0 has 1 and would have 2, that 2 gives for 1.
-        Due.valley(x, "bring 1 p=0&i=1;bring 5 p=0&i=2;bring 1 p=1&i=0;bring 1 p=2&i=1");
+        Lands.valley(x, "bring 1 p=0&i=1;bring 5 p=0&i=2;bring 1 p=1&i=0;bring 1 p=2&i=1");
         due.is("of what they have then", x.swaps(), 2);
         due.is("nothing changed", x.has(0, 2), 0);
-        Due.valley(x, "bring 5 p=0&i=1&l=2;bring 5 p=1&i=0&l=2");
+        Lands.valley(x, "bring 5 p=0&i=1&l=2;bring 5 p=1&i=0&l=2");
         due.is("in time", x.swaps(), 1);
         x.set(1, 1);
         due.is("LEFT as it is", x.swaps(), 0);
@@ -156,7 +156,7 @@ public final class AskedTest {
         x.holding(0);
         due.is("n 0", x.alike(0), -2);
         due.is("n 37", x.alike(37), -2);
-        Due.valley(x, "fall 1 s<99;bring 5 s>4;cost 2 s<99;pay 3;bring 2 i=1");
+        Lands.valley(x, "fall 1 s<99;bring 5 s>4;cost 2 s<99;pay 3;bring 2 i=1");
         due.is("a year", x.alike(1), 3);
         due.is("five years", x.alike(5), 15);
         due.is("36 years", x.alike(36), 72 - 25);
@@ -179,7 +179,7 @@ public final class AskedTest {
         x.holder(0, 0);
         due.is("the first as a row", x.best(0), 0);
         due.is("the first as a row", x.best(1), 1);
-        Due.valley(x, "bring 5 p=0&i=2;bring 4 p=1&i=2;bring 3 p=0&i=1");
+        Lands.valley(x, "bring 5 p=0&i=2;bring 4 p=1&i=2;bring 3 p=0&i=1");
         due.is("together", x.best(-1), 3 * 7);
         due.is("holder 0", x.best(0), 1);
         due.is("holder 1", x.best(1), 2);
@@ -194,7 +194,7 @@ public final class AskedTest {
         for (int left = 1; left < 10; left++) {
             y.row(0, left, 1);
         }
-        Due.valley(y, "cost 1 s=1");
+        Lands.valley(y, "cost 1 s=1");
         due.is("a sum below 0", y.best(-1), -1);
     }
 
@@ -205,7 +205,7 @@ public final class AskedTest {
             x.holder(n + 1, 9);
             x.lot(2 - n);
         }
-        Due.valley(x, "fall 1 s<99;bring 5 s>4;cost 2 s<99;pay 3");
+        Lands.valley(x, "fall 1 s<99;bring 5 s>4;cost 2 s<99;pay 3");
         x.go(3);
         x.ever();
         x.rounds(0);

@@ -109,6 +109,28 @@ final class BookEdges {
         x.book(-1);
         x.book(1);
         edge.is("a PURSE as it is", x.looked(0, 1), -5);
+        goneSoByStateAndLeft();
+    }
+
+    private void goneSoByStateAndLeft() {
+        // The PURSE: 4, 4, 5, then a step of 5, and so on; STATE falls with LEFT 2 alone.
+        ByLot x = Lands.with(Lands.of("bring 4 l=3;bring 1 l=1;cost 5 s<99;fall 9 l=2;pay 9", 0), 2, 9);
+        x.set(0, 3);
+        Lands.books(x, 0, 0, 0, 1, 0, 0, 1, 0, 0);
+        edge.is("GAINS by LEFT", x.looked(0, 0), -5);
+        x = Lands.with(Lands.of("fall 1 s<99;bring 6 s=3;cost 6 s=2;cost 50 s>2", 4), 2, 9);
+        // 4, 3 (6), 2: a step for 6 to 3, that brings 6 again.
+        Lands.books(x, 0, 0, 1, 1);
+        edge.is("GAINS by STATE", x.looked(0, 0), -5);
+        x = Lands.with(Lands.of("bring 7 p=1;cost 7 s<99", 0, 0), 0, 0, 2, 9);
+        Lands.books(x, 0, 1, 1);
+        edge.is("GAINS by HOLDER", x.looked(1, 0), -5);
+        x.go(3);
+        edge.is("a PURSE", x.has(1, 3), 7);
+        x.book(-1);
+        Lands.books(x, 1, 1, 1);
+        edge.is("a PURSE as it is", x.looked(1, 0), -5);
+        edge.is("another's", x.looked(0, 0), 0);
     }
 
     private void none() {
@@ -180,6 +202,8 @@ final class BookEdges {
         edge.is("from how all is", x.judge(5, 3, 1), -5);
         edge.is("STATES stay", x.judge(5, 0, 0), -5);
         edge.is("as nobody mends", Lands.bytes(Lands.of("fall 9 s<99", 9), 0, 0).judge(0, 0, 1), -5);
+        ByLot y = Lands.with(Lands.of("bring 9 s>0", 0, 0, 3), 0, 0, 1, 0, 6, 5);
+        edge.is("as each mends", Lands.bytes(y, 0, 0, 1, 5).judge(0, 0, 2), -5);
         edge.says("Terms 4", "the first HOLDING that is otherwise;");
         edge.is("0", fallen(2, 9, 0).judge(5, 0, 0), 0);
         edge.is("0 and 1", fallen(4, 8, 0).judge(5, 0, 0), 0);
@@ -292,6 +316,33 @@ final class BookEdges {
         edge.is("what the BOOK tells", x.looked(0, 0), 2);
         edge.is("which VALLEY", x.told(1, 1, 0, 0, 1), 2);
         edge.is("which VALLEY", x.told(1, 1, 0, 0, 3), 0);
+        allOfIt();
+    }
+
+    private void allOfIt() {
+        ByLot x = Lands.with(Lands.of("", 0, 0, 0, 0, 0, 0), 6, 0, 6, 0, 6, 0, 6, 0, 6, 0, 6, 0);
+        for (int k = 0; k < 6; k++) {
+            x.row(k, 9, 1);
+        }
+        Lands.books(x, 1, 0, 0, 0, 0, 0, 0, 0, 0, 1, 0, 0);
+        Lands.lots(x, 5, 4, 3, 2, 1, 0);
+        x.image();
+        Lands.valley(x, "bring 3 s<99");
+        x.go(9);
+        edge.is("the last one's HOLDING", x.has(5, 2), 0);
+        x.book(-1);
+        Lands.books(x, 0, 0, 0, 0, 0, 0, 0, 0, 0, 0, 0, 2);
+        x.lot(-1);
+        x.undo();
+        for (int n = 0; n < 6; n++) {
+            edge.is("STATE of " + n, x.of(n, 0), 0);
+            edge.is("whose " + n, x.of(n, 1), n);
+            edge.is("PURSE of " + n, x.has(n, 3), 0);
+        }
+        edge.is("twelve years of the BOOK", x.looked(5, 5), -5);
+        edge.is("six of the LOT", x.lot(0), -3);
+        x.go(9);
+        edge.is("the last of the LOT", x.has(5, 2), 0);
     }
 
     private void cameSince() {

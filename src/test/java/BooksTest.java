@@ -58,7 +58,7 @@ public final class BooksTest {
         x.lot(1);
         x.lot(0);
         x.set(0, 2);
-        Due.valley(x, "cost 6 s<99;pay 3");
+        Lands.valley(x, "cost 6 s<99;pay 3");
         for (int n = 0; n < 2; n++) {
             x.book(0);
         }
@@ -76,7 +76,7 @@ public final class BooksTest {
         x.holding(0);
         x.set(0, 3);
         // The PURSE: 4, 4, 5 (by LEFT 3 and 1), then a step of 5, and so on; STATE falls with LEFT 2 alone.
-        Due.valley(x, "bring 4 l=3;bring 1 l=1;cost 5 s<99;fall 9 l=2;pay 9");
+        Lands.valley(x, "bring 4 l=3;bring 1 l=1;cost 5 s<99;fall 9 l=2;pay 9");
         int[] book = {0, 0, 0, 1, 0, 0, 1, 0, 0};
         for (int n = 0; n < book.length; n++) {
             due.is("the book so far, " + n + " years", x.looked(0, 0), -5);
@@ -111,7 +111,7 @@ public final class BooksTest {
         due.is("below 0", x.judge(0, -1, 0), 100);
         due.is("far beyond", x.judge(0, Integer.MAX_VALUE, 0), 100);
         due.is("far below", x.judge(0, Integer.MIN_VALUE, 0), 100);
-        Due.valley(x, "fall 1 i=1");
+        Lands.valley(x, "fall 1 i=1");
         due.is("behind a year", x.judge(0, 1, 1), 1);
         x.item(0, 2, 0);
         due.is("behind 36", x.judge(0, 1, 36), -5);
@@ -125,7 +125,7 @@ public final class BooksTest {
             x.holding(9);
             x.holder(0, 0);
         }
-        Due.valley(x, "fall 1 s<99;bring 5 s>4");
+        Lands.valley(x, "fall 1 s<99;bring 5 s>4");
         x.lot(1);
         x.book(2);
         x.set(0, 5);
@@ -134,7 +134,7 @@ public final class BooksTest {
         x.lot(0);
         x.book(-1);
         x.set(0, 3);
-        Due.valley(x, "bring 9 s<99");
+        Lands.valley(x, "bring 9 s<99");
         x.go(9);
         due.is("undone", x.undo(), 2);
         due.is("states", x.of(0, 0), 7);
@@ -147,7 +147,7 @@ public final class BooksTest {
         due.is("book", x.count(6), 1);
         due.is("which valley holds", x.told(9, 1, 0, 0, 1), 5);
         due.is("valleys stay", x.count(2), 2);
-        due.is("the next valley", Due.valley(x, "pay 1"), 2);
+        due.is("the next valley", Lands.valley(x, "pay 1"), 2);
         due.is("undone again", x.undo(), 2);
         due.is("the first valley again", x.told(9, 1, 0, 0, 3), 0);
         x.go(1);
@@ -160,13 +160,13 @@ public final class BooksTest {
         ByLot x = new ByLot();
         x.holder(0, 0);
         x.image();
-        Due.valley(x, "bring 9 s<99");
+        Lands.valley(x, "bring 9 s<99");
         x.holding(9);
         x.holding(8);
         x.holder(6, 3);
         x.row(1, 9, 2);
         x.tape(0, 0, 6);
-        Due.feed(x, "pay");
+        Lands.feed(x, "pay");
         x.act(0, 0, 1);
         x.go(1);
         due.is("undone", x.undo(), 0);

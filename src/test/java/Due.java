@@ -22,16 +22,4 @@ final class Due {
             System.exit(1);
         }
     }
-
-    /** THE TEXT takes these bytes behind its own. */
-    static void feed(ByLot x, String bytes) {
-        for (int i = 0; i < bytes.length(); i++) {
-            x.feed(bytes.charAt(i), 1);
-        }
-    }
-
-    static int valley(ByLot x, String bytes) {
-        feed(x, bytes);
-        return x.valley();
-    }
 }

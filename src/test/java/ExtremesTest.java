@@ -38,7 +38,7 @@ public final class ExtremesTest {
             x.holder(random.nextInt(7), random.nextInt(10));
         }
         if (random.nextBoolean()) {
-            Due.valley(x, Texts.valley(random));
+            Lands.valley(x, Texts.valley(random));
         }
         x.tape(0, random.nextInt(5), 60);
         return x;

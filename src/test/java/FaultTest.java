@@ -10,7 +10,7 @@ public final class FaultTest {
         for (int n = 0; n < 300; n++) {
             String text = spoilt(Texts.valley(random), random);
             int fault = Grammar.fault(text);
-            due.is("valley '" + text + "'", Due.valley(new ByLot(), text), fault < 0 ? 0 : -10 - fault);
+            due.is("valley '" + text + "'", Lands.valley(new ByLot(), text), fault < 0 ? 0 : -10 - fault);
         }
         due.end("FaultTest");
     }

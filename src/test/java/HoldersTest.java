@@ -79,7 +79,7 @@ public final class HoldersTest {
         due.is("TOLD", x.mends(2), 2);
         x.set(1, 8);
         due.is("TOLD nothing for 8", x.mends(2), 1);
-        Due.valley(x, "cost 1 s=4");
+        Lands.valley(x, "cost 1 s=4");
         due.is("a PURSE below COST", x.mends(2), 0);
         x.row(2, 8, 1);
         due.is("TOLD whatever it costs", x.mends(2), 1);
@@ -90,7 +90,7 @@ public final class HoldersTest {
         x.holder(1, 0);
         x.holding(4);
         x.holding(9);
-        Due.valley(x, PLAIN_VALLEY);
+        Lands.valley(x, PLAIN_VALLEY);
         // From STATE 4 with one year: one step brings 5 for 2.
         due.is("PLAIN, last year", x.would(0, 0, 1), 1);
         // With two years a second step has the 5 once more.
@@ -113,7 +113,7 @@ public final class HoldersTest {
         x.holder(0, 9);
         x.holding(4);
         x.holding(9);
-        Due.valley(x, PLAIN_VALLEY);
+        Lands.valley(x, PLAIN_VALLEY);
         due.is("PLAIN, one year", x.worth(0, 0, 1), 3);
         due.is("PLAIN, two years", x.worth(0, 0, 2), 6);
         due.is("PAID: 4 behind two steps, and a fall", x.worth(1, 0, 1), 5 - 4 + 3 * 5);
@@ -137,7 +137,7 @@ public final class HoldersTest {
         x.holder(2, 9);
         x.holding(6);
         x.holding(6);
-        Due.valley(x, "fall 2 p=99;fall 1 p=0;bring 5 s>4;cost 2 s<99");
+        Lands.valley(x, "fall 2 p=99;fall 1 p=0;bring 5 s>4;cost 2 s<99");
         due.is("a year", x.go(1), 1);
         due.is("LEFT is one less", x.count(4), 8);
         due.is("its holder had no purse to mend", x.of(0, 0), 5);
@@ -166,7 +166,7 @@ public final class HoldersTest {
         x.holder(0, 0);
         x.holder(0, 0);
         x.holding(9);
-        Due.valley(x, "fall 2 l=1;pay 7");
+        Lands.valley(x, "fall 2 l=1;pay 7");
         x.go(8);
         due.is("no pay ahead of the lot", x.has(0, 3), 0);
         x.go(1);
@@ -178,13 +178,13 @@ public final class HoldersTest {
         ByLot x = new ByLot();
         x.holder(3, 3);
         x.holding(0);
-        Due.valley(x, "bring 9 l<3&s>1;cost 8 s<99;fall 9 l=4");
+        Lands.valley(x, "bring 9 l<3&s>1;cost 8 s<99;fall 9 l=4");
         // With LEFT 1 a LONG one sees l 4: what it mends now is lost.
         due.is("it waits", x.would(0, 0, 1), 0);
         // With LEFT 2 it sees l 5, all the same.
         due.is("and waits", x.would(0, 0, 2), 0);
         due.is("the worth: two years of 9, two steps", x.worth(0, 0, 1), 2);
-        Due.valley(x, "bring 9 l<3&s>1;cost 8 s<99;cost 1 l<4");
+        Lands.valley(x, "bring 9 l<3&s>1;cost 8 s<99;cost 1 l<4");
         due.is("it mends as it is dearer later", x.would(0, 0, 1), 2);
     }
 
@@ -194,7 +194,7 @@ public final class HoldersTest {
         x.holding(8);
         x.row(0, 9, 2);
         x.row(0, 8, 2);
-        Due.valley(x, "cost 5 s<99");
+        Lands.valley(x, "cost 5 s<99");
         due.is("9 at most", x.mends(0), 1);
         x.go(1);
         due.is("STATE 9", x.of(0, 0), 9);

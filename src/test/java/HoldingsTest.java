@@ -102,12 +102,12 @@ public final class HoldingsTest {
 
     private static void valleys() {
         ByLot x = new ByLot();
-        due.is("a fault", Due.valley(x, "pay"), -13);
+        due.is("a fault", Lands.valley(x, "pay"), -13);
         due.is("the text is empty then", x.count(7), 0);
         for (int n = 0; n < 5; n++) {
-            due.is("valley " + n, Due.valley(x, "pay " + n), n);
+            due.is("valley " + n, Lands.valley(x, "pay " + n), n);
         }
-        Due.feed(x, "pay 9");
+        Lands.feed(x, "pay 9");
         due.is("the sixth", x.valley(), -4);
         due.is("the text stays", x.count(7), 5);
         due.is("valleys", x.count(2), 5);
@@ -164,26 +164,26 @@ public final class HoldingsTest {
         due.is("a byte of 255", x.valley(), -10);
         x.feed(0, 1);
         due.is("a byte of 0", x.valley(), -10);
-        Due.feed(x, "pay 1");
+        Lands.feed(x, "pay 1");
         x.feed(0, 1);
         due.is("a byte of 0 behind", x.valley(), -15);
     }
 
     private static void fault(String bytes, int place) {
         ByLot x = new ByLot();
-        Due.valley(x, "keep 5");
-        due.is("FAULT of '" + bytes + "'", Due.valley(x, bytes), -10 - place);
+        Lands.valley(x, "keep 5");
+        due.is("FAULT of '" + bytes + "'", Lands.valley(x, bytes), -10 - place);
         due.is("the one that held holds", x.told(0, 1, 0, 0, 4), 5);
         due.is("one valley", x.count(2), 1);
     }
 
     private static void stands(String bytes) {
-        due.is("'" + bytes + "'", Due.valley(new ByLot(), bytes), 0);
+        due.is("'" + bytes + "'", Lands.valley(new ByLot(), bytes), 0);
     }
 
     private static void told() {
         ByLot x = new ByLot();
-        Due.valley(x, "fall 6 s>3;fall 5 l<5;bring 99 s=2|s=4&i=1;cost 7 !p=3;cost 3 (s=1|s=2)&l>9;pay 3;pay 8;keep 2");
+        Lands.valley(x, "fall 6 s>3;fall 5 l<5;bring 99 s=2|s=4&i=1;cost 7 !p=3;cost 3 (s=1|s=2)&l>9;pay 3;pay 8;keep 2");
         due.is("FALL 5", x.told(3, 4, 0, 0, 0), 5);
         due.is("FALL 6", x.told(4, 5, 0, 0, 0), 6);
         due.is("FALL 9 at most", x.told(4, 4, 0, 0, 0), 9);
@@ -212,8 +212,8 @@ public final class HoldingsTest {
 
     private static void nothingStaysOfFaults() {
         ByLot x = new ByLot();
-        due.is("a fault at the end", Due.valley(x, "bring 5 s<9|s=9;fall 3 s<99;pay 7;keep 3;x"), -10 - 41);
-        due.is("the next", Due.valley(x, "cost 1 s<9"), 0);
+        due.is("a fault at the end", Lands.valley(x, "bring 5 s<9|s=9;fall 3 s<99;pay 7;keep 3;x"), -10 - 41);
+        due.is("the next", Lands.valley(x, "cost 1 s<9"), 0);
         int[] want = {0, 0, 1, 0, 0};
         for (int what = 0; what < want.length; what++) {
             due.is("told " + what, x.told(0, 1, 0, 0, what), want[what]);
@@ -223,11 +223,11 @@ public final class HoldingsTest {
 
     private static void newestHolds() {
         ByLot x = new ByLot();
-        Due.valley(x, "bring 3 p=5&i=5&l=18;bring 4 p>5|i>5|l>18");
+        Lands.valley(x, "bring 3 p=5&i=5&l=18;bring 4 p>5|i>5|l>18");
         due.is("number 5, left 18", x.told(0, 18, 5, 5, 1), 3);
-        Due.valley(x, "bring 3 s<99;pay 4;keep 6");
+        Lands.valley(x, "bring 3 s<99;pay 4;keep 6");
         due.is("the first brings", x.told(0, 1, 0, 0, 1), 3);
-        Due.valley(x, "cost 2 s<99");
+        Lands.valley(x, "cost 2 s<99");
         due.is("the second brings nothing", x.told(0, 1, 0, 0, 1), 0);
         due.is("the second costs", x.told(0, 1, 0, 0, 2), 2);
         due.is("without pay", x.told(0, 1, 0, 0, 3), 0);

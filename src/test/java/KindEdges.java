@@ -193,6 +193,17 @@ final class KindEdges {
         worths(x, 2, 0, 6);
         worths(x, 3, 0, 7);
         edge.is("the PURSE stays", x.has(0, 3), 0);
+        x = one(2, 9, "bring 8 s<99", 0, 0);
+        x.go(1);
+        Lands.valley(x, "cost 5 s<99");
+        // The PURSE of 8 pays one step, and with 2 more a second.
+        worths(x, 9, -5, -5);
+        Lands.valley(x, "cost 5 s<99;bring 2 i=0&l=9");
+        worths(x, 9, -8, -5);
+        x = Lands.with(Lands.of("bring 9 i=0", 0, 0), 0, 0, 2, 9);
+        x.go(1);
+        Lands.valley(x, "cost 5 s<99");
+        edge.is("another's PURSE does not", x.worth(1, 0, 9), 0);
         x = one(6, 0, "cost 7 s<99;bring 1 s=9;pay 99", 0, 8);
         x.row(0, 2, 2);
         x.row(0, 1, 1);
@@ -257,6 +268,14 @@ final class KindEdges {
         edge.is("in the year that comes", x.mends(1), 1);
         x.set(1, 7);
         edge.is("in another", x.mends(1), 0);
+        x = Lands.with(Lands.of("cost 1 s=4", 4, 4, 9), 6, 5, 6, 0, 6, 0);
+        x.row(1, 9, 1);
+        x.row(2, 9, 2);
+        Lands.lots(x, 1, 2, 0);
+        x.go(9);
+        edge.is("of the HOLDING that a lot gave", x.has(1, 2), 2);
+        edge.is("of STATE 9", x.mends(1), 0);
+        edge.is("of STATE 4", x.mends(2), 2);
         edge.only("mends(1)", Lands::busy, y -> y.mends(1));
         edge.says("Promise 11", "NONE.");
         for (int k : new int[] {-1, 5, 6, LEAST, MOST}) {

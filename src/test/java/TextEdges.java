@@ -168,6 +168,9 @@ final class TextEdges {
     private void tests() {
         edge.says("Terms 1", "a letter, < or = or >, a number (1 or 2 digits):");
         holdsFor("s<0", "");
+        holdsFor("!s<0", "0123456789");
+        holdsFor("s=3|s<0", "3");
+        holdsFor("s=3&!s<0", "3");
         holdsFor("s<1", "0");
         holdsFor("s<9", "012345678");
         holdsFor("s<10", "0123456789");
@@ -196,14 +199,31 @@ final class TextEdges {
         edge.is("the greatest of all", x.told(9, 18, 5, 5, 1), 1);
         edge.is("the least of all", x.told(0, 1, 0, 0, 1), 2);
         edge.is("each its own", x.told(3, 6, 2, 4, 2), 1);
+        byLetter();
         edge.is("another STATE", x.told(4, 6, 2, 4, 2), 0);
         edge.is("another LEFT", x.told(3, 5, 2, 4, 2), 0);
         edge.is("another HOLDING", x.told(3, 6, 1, 4, 2), 0);
         edge.is("another HOLDER", x.told(3, 6, 2, 3, 2), 0);
     }
 
+    /** Each letter with each sign and number, for STATE 3, LEFT 7, HOLDING 0 and HOLDER 1. */
+    private void byLetter() {
+        int[] asked = {3, 7, 0, 1};
+        for (int letter = 0; letter < 4; letter++) {
+            for (int n : new int[] {0, 1, 2, 3, 4, 6, 7, 8, 9, 10, 18, 19, 98, 99}) {
+                int[] want = {asked[letter] < n ? 1 : 0, asked[letter] == n ? 1 : 0, asked[letter] > n ? 1 : 0};
+                for (int sign = 0; sign < 3; sign++) {
+                    String e = "" + "slip".charAt(letter) + "<=>".charAt(sign) + n;
+                    edge.is(e, Lands.of("cost 1 " + e).told(3, 7, 0, 1, 2), want[sign]);
+                }
+            }
+        }
+    }
+
     private void nested() {
         edge.says("Terms 1", "A ( or ! within 4 others is none.");
+        holdsFor("s=0|s>0&(s=1|s>1&(s=2|s>2&(s=3|s>3&(s=4|s>4&s=5))))", "012345");
+        holdsFor("((((s<6&s>3)&s>1)&s>2)&s<9)|s=9", "459");
         holdsFor("!!!!s=1", "1");
         holdsFor("((((s=1))))", "1");
         holdsFor("!(!(s=1))", "1");
@@ -252,6 +272,14 @@ final class TextEdges {
         }
         edge.is("a sixth", Lands.valley(x, "pay 6"), -4);
         edge.is("the fifth holds", x.told(0, 1, 0, 0, 3), 5);
+        x = Lands.of("fall 3 s<9;bring 4 s<9;cost 5 s<9;pay 6;keep 7");
+        for (int what = 0; what < 5; what++) {
+            edge.is("the first, what " + what, x.told(2, 2, 2, 2, what), what + 3);
+        }
+        Lands.valley(x, "fall 1 s>9");
+        for (int what = 0; what < 5; what++) {
+            edge.is("nothing of the first, what " + what, x.told(2, 2, 2, 2, what), 0);
+        }
         edge.says("Terms 1", "without one there are no CLAUSES.");
         x = Lands.with(Lands.of("", 9, 0), 1, 0, 6, 9);
         x.row(1, 9, 2);
@@ -376,6 +404,13 @@ final class TextEdges {
         edge.is("the next one's number", Lands.valley(x, "keep 1"), 1);
         edge.is("nothing of the faulty ones", x.told(0, 1, 0, 0, 3), 0);
         edge.is("nothing of the faulty ones", x.told(0, 1, 0, 0, 0), 0);
+        edge.is("another FAULT", Lands.valley(x, "keep 7;pay 8;cost 9 s<9;bring 9 s<9;"), -46);
+        edge.is("the next", Lands.valley(x, "bring 2 s>4"), 2);
+        int[] want = {0, 2, 0, 0, 0};
+        for (int what = 0; what < 5; what++) {
+            edge.is("its own, what " + what, x.told(5, 1, 0, 0, what), want[what]);
+            edge.is("nothing of the faulty one, what " + what, x.told(4, 1, 0, 0, what), 0);
+        }
     }
 
     private void told() {

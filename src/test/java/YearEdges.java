@@ -116,6 +116,12 @@ final class YearEdges {
         x.go(7);
         states(x, 0, 0);
         purses(x, 0);
+        x = Lands.with(Lands.of("fall 1 p=99;fall 2 p<99", 9, 9, 9, 9, 9, 9), 0, 0);
+        edge.is("told of HOLDER 0", x.told(9, 9, 2, 0, 0), 2);
+        edge.is("told of HOLDER 5", x.told(9, 9, 4, 5, 0), 2);
+        x.go(1);
+        states(x, 7, 8, 8, 8, 8, 8);
+        edge.is("told of HOLDER 0", x.told(9, 9, 3, 0, 0), 2);
         x = Lands.of("fall 3 l=9;fall 5 s=6", 9);
         x.go(1);
         states(x, 6);
