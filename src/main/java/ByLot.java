@@ -1222,24 +1222,28 @@ public final class ByLot {
             length = Math.min(Math.min(holders, holdings), MOST);
             any = false;
             sum = 0;
-            from(0, 0, 0);
+            from(this, 0, 0, 0);
         }
 
-        private void from(int k, int taken, int total) {
-            if (k >= length) {
-                // Rows come first to last, so an equal one that comes later is not taken.
-                if (!any || total > sum) {
-                    any = true;
-                    sum = total;
-                    System.arraycopy(trial, 0, chosen, 0, MOST);
-                }
+        private static void from(Draw draw, int k, int taken, int total) {
+            if (k >= draw.length) {
+                draw.compare(total);
                 return;
             }
-            for (int h = 0; h < holdings; h++) {
+            for (int h = 0; h < draw.holdings; h++) {
                 if ((taken >> h & 1) == 0) {
-                    put(trial, k, h);
-                    from(k + 1, taken | 1 << h, total + at(worths, k * MOST + h));
+                    put(draw.trial, k, h);
+                    from(draw, k + 1, taken | 1 << h, total + at(draw.worths, k * MOST + h));
                 }
+            }
+        }
+
+        private void compare(int total) {
+            // Rows come first to last, so an equal one that comes later is not taken.
+            if (!any || total > sum) {
+                any = true;
+                sum = total;
+                System.arraycopy(trial, 0, chosen, 0, MOST);
             }
         }
     }
