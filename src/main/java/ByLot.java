@@ -682,11 +682,12 @@ public final class ByLot {
 
         /** holder NIL: nobody's. */
         Ground ground(World w, int holding, int holder) {
+            int number = Math.floorMod(holding, MOST);
             boolean nobodys = !within(holder, 0, MOST - 1);
-            int place = Math.floorMod(holding, MOST) * (MOST + 1) + (nobodys ? MOST : holder);
+            int place = number * (MOST + 1) + (nobodys ? MOST : holder);
             Ground ground = grounds[place];
             if (ground == null) {
-                ground = new Ground(holding, nobodys ? NOBODYS_NUMBER : holder);
+                ground = new Ground(number, nobodys ? NOBODYS_NUMBER : holder);
                 grounds[place] = ground;
             }
             ground.stand(valleyOf(w));

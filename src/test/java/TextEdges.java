@@ -411,6 +411,10 @@ final class TextEdges {
             edge.is("its own, what " + what, x.told(5, 1, 0, 0, what), want[what]);
             edge.is("nothing of the faulty one, what " + what, x.told(4, 1, 0, 0, what), 0);
         }
+        edge.is("a FAULT behind a !", Lands.valley(x, "fall 1 !s<5;"), -22);
+        edge.is("the next has no !", Lands.valley(x, "fall 1 s<5"), 3);
+        edge.is("below 5", x.told(4, 1, 0, 0, 0), 1);
+        edge.is("not below 5", x.told(5, 1, 0, 0, 0), 0);
     }
 
     private void told() {
